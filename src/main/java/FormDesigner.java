@@ -56,8 +56,8 @@ public final class FormDesigner {
     private final State[] past = new State[UNDOS];
     private int pastCount;
     private int pastNext;
-    private final Form scratch = new Form();
     private final Parser parser = new Parser();
+    private final Form scratch = parser.form;
     private final View view = new View();
     private final Layout layout = new Layout();
     private final Writer writer = new Writer();
@@ -94,7 +94,8 @@ public final class FormDesigner {
     }
 
     public int load() {
-        boolean right = parser.readSetup(tape, tapeSize, scratch);
+        parser.start(tape, tapeSize);
+        boolean right = parser.readHead() && parser.readNodes(NOT_FOUND) && parser.settle();
         endText();
         if (!right) {
             return INVALID;
@@ -111,7 +112,8 @@ public final class FormDesigner {
             return INVALID;
         }
         scratch.copyFrom(state.draft);
-        boolean right = parser.readNodes(tape, tapeSize, scratch, group);
+        parser.start(tape, tapeSize);
+        boolean right = parser.readNodes(group) && parser.settle();
         endText();
         if (!right) {
             return INVALID;
@@ -130,10 +132,14 @@ public final class FormDesigner {
             return INVALID;
         }
         scratch.copyFrom(state.draft);
-        boolean right = parser.readCondition(tape, tapeSize, scratch, node);
-        endText();
         Node changed = scratch.find(node);
-        if (!right || changed == null) {
+        if (changed == null) {
+            return INVALID;
+        }
+        parser.start(tape, tapeSize);
+        boolean right = parser.readCondition(node, changed) && parser.settle();
+        endText();
+        if (!right) {
             return INVALID;
         }
         remember();
@@ -487,11 +493,23 @@ public final class FormDesigner {
     }
 
     public int textLength(boolean print, int of) {
-        return writeLayout(print, of, INVALID) ? writer.length : INVALID;
+        Form form = arranged(print, of);
+        if (form == null) {
+            return INVALID;
+        }
+        writer.start(INVALID);
+        writer.writeLayout(form, layout, print ? null : view);
+        return writer.length;
     }
 
     public int textByte(boolean print, int of, int i) {
-        return i >= 0 && writeLayout(print, of, i) ? writer.found : INVALID;
+        Form form = i < 0 ? null : arranged(print, of);
+        if (form == null) {
+            return INVALID;
+        }
+        writer.start(i);
+        writer.writeLayout(form, layout, print ? null : view);
+        return writer.found;
     }
 
     public int setupLength() {
@@ -561,22 +579,16 @@ public final class FormDesigner {
 
     /** Works out a layout and gives the form that it lays out; null if there is no such layout. */
     private Form arranged(boolean print, int of) {
-        Form form = print ? findRevision(of) : formOf(state.findSheet(of));
-        if (form == null || (!print && !lookAt(of))) {
+        Sheet sheet = print ? null : state.findSheet(of);
+        Form form = print ? findRevision(of) : formOf(sheet);
+        if (form == null) {
             return null;
         }
-        layout.arrange(form, print ? null : view);
-        return form;
-    }
-
-    private boolean writeLayout(boolean print, int of, int wanted) {
-        Form form = arranged(print, of);
-        if (form == null) {
-            return false;
+        if (sheet != null) {
+            view.look(form, sheet);
         }
-        writer.start(wanted);
-        writer.writeLayout(form, layout, print ? null : view);
-        return true;
+        layout.arrange(form, sheet == null ? null : view);
+        return form;
     }
 
     private static boolean isKind(int kind, int low, int high) {
@@ -753,7 +765,11 @@ public final class FormDesigner {
         }
 
         Node findGroup(int group) {
-            return group >= 0 && group < GROUPS ? find(FIELDS + group) : null;
+            if (group < 0 || group >= GROUPS) {
+                return null;
+            }
+            Node found = nodes[FIELDS + group];
+            return found != null && found.present ? found : null;
         }
 
         boolean takesGroup(int group) {
@@ -829,21 +845,17 @@ public final class FormDesigner {
             return false;
         }
 
-        /** The place behind the node at a place and all that is in it. */
-        private int behind(int place) {
-            Node node = find(at(place));
-            int level = node == null ? 0 : levelOf(node.group);
-            for (int next = place + 1; next < count; next++) {
+        /** The place behind a node and all that is in it. */
+        private int endOf(int node) {
+            Node asked = find(node);
+            int level = asked == null ? 0 : levelOf(asked.group);
+            for (int next = placeOf(node) + 1; next < count; next++) {
                 Node other = find(at(next));
                 if (other == null || levelOf(other.group) <= level) {
                     return next;
                 }
             }
             return count;
-        }
-
-        private int endOf(int group) {
-            return group == NOT_FOUND ? count : behind(placeOf(FIELDS + group));
         }
 
         int listSize(int group) {
@@ -871,7 +883,7 @@ public final class FormDesigner {
 
         /** The place at which a node comes to stand that gets an index in the list of a group. */
         private int placeFor(int group, int index) {
-            int end = endOf(group);
+            int end = group == NOT_FOUND ? count : endOf(FIELDS + group);
             int seen = 0;
             for (int place = 0; place < end; place++) {
                 Node node = find(at(place));
@@ -902,7 +914,7 @@ public final class FormDesigner {
             if (node < 0 || node >= NODES || nodes[node] == null || count < 0 || count >= NODES) {
                 return null;
             }
-            int end = endOf(group);
+            int end = group == NOT_FOUND ? count : endOf(FIELDS + group);
             for (int place = count; place > end; place--) {
                 put(place, at(place - 1));
             }
@@ -920,7 +932,7 @@ public final class FormDesigner {
             if (from < 0) {
                 return;
             }
-            int end = behind(from);
+            int end = endOf(node);
             for (int place = from; place < end; place++) {
                 hold(place - from, at(place));
             }
@@ -940,7 +952,7 @@ public final class FormDesigner {
             if (moved == null || from < 0) {
                 return;
             }
-            int size = behind(from) - from;
+            int size = endOf(node) - from;
             for (int i = 0; i < size; i++) {
                 hold(i, at(from + i));
             }
@@ -1169,7 +1181,7 @@ public final class FormDesigner {
                 return false;
             }
             for (int i = 0; i <= GROUPS && node != null; i++) {
-                if (node.condition != null && !holds(node.condition, 0)) {
+                if (node.condition != null && !holds(this, node.condition, 0)) {
                     return false;
                 }
                 node = form.findGroup(node.group);
@@ -1177,20 +1189,20 @@ public final class FormDesigner {
             return true;
         }
 
-        private boolean holds(Term term, int level) {
+        private static boolean holds(View view, Term term, int level) {
             if (term == null || level > LEVELS) {
                 return false;
             }
             if (term.kind == NOT) {
-                return !holds(term.first, level + 1);
+                return !holds(view, term.first, level + 1);
             }
             if (term.kind == NAME) {
-                return passes(term);
+                return view.passes(term);
             }
             // "and" ends with the first part that fails, "or" with the first one that holds.
             boolean ending = term.kind == OR;
             for (Term part = term.first; part != null; part = part.next) {
-                if (holds(part, level + 1) == ending) {
+                if (holds(view, part, level + 1) == ending) {
                     return ending;
                 }
             }
@@ -1211,13 +1223,19 @@ public final class FormDesigner {
         }
     }
 
-    /** A text cut into tokens. */
+    /** A text cut into tokens, one of which is the present one. */
     private static final class Tokens {
         private static final int WHITE = 0;
         private static final int LETTER = 1;
         private static final int DIGIT = 2;
         private static final int SIGN = 3;
 
+        /** The present token; END behind the last one. */
+        int kind;
+        int start;
+        /** The number of the present token if it is an INT, its packed letters if it is a word. */
+        long content;
+        private int at;
         private int count;
         private int length;
         private final int[] kinds = new int[TAPE];
@@ -1249,20 +1267,17 @@ public final class FormDesigner {
             for (int i = 0; i < count && i < TAPE; i++) {
                 kinds[i] = kindOf(kinds[i], sizes[i], values[i]);
             }
+            at = -1;
+            step();
         }
 
-        /** The token at an index; END behind the last one. */
-        int kind(int i) {
-            return i >= 0 && i < count && i < TAPE ? kinds[i] : END;
-        }
-
-        int start(int i) {
-            return i >= 0 && i < count && i < TAPE ? starts[i] : length;
-        }
-
-        /** The number of an INT, the packed letters of a word. */
-        long content(int i) {
-            return i >= 0 && i < count && i < TAPE ? values[i] : 0;
+        /** Makes the next token the present one. */
+        void step() {
+            at++;
+            boolean there = at >= 0 && at < count && at < TAPE;
+            kind = there ? kinds[at] : END;
+            start = there ? starts[at] : length;
+            content = there ? values[at] : 0;
         }
 
         /** The keyword with these packed letters; NAME if they are none. */
@@ -1332,12 +1347,11 @@ public final class FormDesigner {
         }
     }
 
-    /** Reads a text into a form; after a failure that form is of no use, and error tells where. */
+    /** Reads a text into its form; after a failure that form is of no use, and error tells where. */
     private static final class Parser {
         int error = NOT_FOUND;
+        final Form form = new Form();
         private final Tokens tokens = new Tokens();
-        private int at;
-        private Form form;
         private int owner;
         private int tests;
         private final Term[] testTerms = new Term[TAPE];
@@ -1349,92 +1363,37 @@ public final class FormDesigner {
             return tokens.wordOf(name) != NAME;
         }
 
-        boolean readSetup(byte[] text, int length, Form target) {
-            start(text, length, target);
-            target.clear();
-            if (!take(FORM)) {
-                return false;
-            }
-            target.screen = takeInt(14, 60);
-            if (target.screen < 0) {
-                return false;
-            }
-            target.print = takeInt(14, 60);
-            if (target.print < 0) {
-                return false;
-            }
-            target.page = takeInt(1, 60);
-            return target.page >= 0 && take(';') && nodes(NOT_FOUND) && settle();
-        }
-
-        boolean readNodes(byte[] text, int length, Form target, int group) {
-            start(text, length, target);
-            return nodes(group) && settle();
-        }
-
-        boolean readCondition(byte[] text, int length, Form target, int node) {
-            start(text, length, target);
-            Node changed = target.find(node);
-            if (changed == null) {
-                return fail();
-            }
-            changed.condition = null;
-            changed.tests = 0;
-            changed.refers = 0;
-            return token() == END || (condition(node, changed) && take(END) && settle());
-        }
-
-        private void start(byte[] text, int length, Form target) {
+        void start(byte[] text, int length) {
             tokens.read(text, length);
-            at = 0;
             error = NOT_FOUND;
-            form = target;
+            owner = NOT_FOUND;
             tests = 0;
         }
 
-        private int token() {
-            return tokens.kind(at);
-        }
-
-        /** The present token cannot stand where it stands. */
-        private boolean fail() {
-            error = tokens.start(at);
-            return false;
-        }
-
-        private boolean take(int kind) {
-            if (token() != kind) {
-                return fail();
+        /** Reads the head of a setup text; the form has no nodes then. */
+        boolean readHead() {
+            form.clear();
+            if (!take(FORM)) {
+                return false;
             }
-            at++;
-            return true;
-        }
-
-        private int takeInt(int low, int high) {
-            long number = tokens.content(at);
-            if (token() != INT || number < low || number > high) {
-                fail();
-                return INVALID;
+            form.screen = takeInt(14, 60);
+            if (form.screen < 0) {
+                return false;
             }
-            at++;
-            return (int) number;
-        }
-
-        /** The name of a new node; 0 if none stands here. */
-        private long takeNewName() {
-            long name = tokens.content(at);
-            if (token() != NAME || form.findName(name) >= 0) {
-                fail();
-                return 0;
+            form.print = takeInt(14, 60);
+            if (form.print < 0) {
+                return false;
             }
-            at++;
-            return name;
+            form.page = takeInt(1, 60);
+            return form.page >= 0 && take(';');
         }
 
-        private boolean nodes(int start) {
+        /** Reads nodes up to the end of the text, into a group that is there. */
+        boolean readNodes(int start) {
             int group = start;
+            // Each step takes a token at least, so the text has ended before the steps do.
             for (int step = 0; step <= TAPE; step++) {
-                int token = token();
+                int token = tokens.kind;
                 if (token == END && group == start) {
                     return true;
                 }
@@ -1450,12 +1409,77 @@ public final class FormDesigner {
                 } else if (token == '}' && group != start) {
                     Node left = form.findGroup(group);
                     group = left == null ? start : left.group;
-                    at++;
+                    tokens.step();
                 } else {
                     return fail();
                 }
             }
             return fail();
+        }
+
+        /** Reads a condition up to the end of the text; if there is no token, the node has none. */
+        boolean readCondition(int node, Node changed) {
+            changed.condition = null;
+            changed.tests = 0;
+            changed.refers = 0;
+            return tokens.kind == END || (condition(node, changed) && take(END));
+        }
+
+        /** Turns the names in the conditions into fields, and refuses what would be circular. */
+        boolean settle() {
+            for (int i = 0; i < tests && i < TAPE; i++) {
+                int field = form.findName(testNames[i]);
+                if (form.findField(field) == null || testTerms[i] == null) {
+                    error = testStarts[i];
+                    return false;
+                }
+                testTerms[i].field = field;
+            }
+            for (int i = 0; i < tests && i < TAPE; i++) {
+                int field = testTerms[i] == null ? NOT_FOUND : testTerms[i].field;
+                Node target = form.find(testOwners[i]);
+                if (target == null || field < 0 || form.refuses(testOwners[i], field)) {
+                    error = testStarts[i];
+                    return false;
+                }
+                target.refers |= 1 << field;
+            }
+            return true;
+        }
+
+        /** The present token cannot stand where it stands. */
+        private boolean fail() {
+            error = tokens.start;
+            return false;
+        }
+
+        private boolean take(int kind) {
+            if (tokens.kind != kind) {
+                return fail();
+            }
+            tokens.step();
+            return true;
+        }
+
+        private int takeInt(int low, int high) {
+            long number = tokens.content;
+            if (tokens.kind != INT || number < low || number > high) {
+                fail();
+                return INVALID;
+            }
+            tokens.step();
+            return (int) number;
+        }
+
+        /** The name of a new node; 0 if none stands here. */
+        private long takeNewName() {
+            long name = tokens.content;
+            if (tokens.kind != NAME || form.findName(name) >= 0) {
+                fail();
+                return 0;
+            }
+            tokens.step();
+            return name;
         }
 
         /** Reads a group up to its opening brace; gives its number, INVALID after a failure. */
@@ -1465,7 +1489,7 @@ public final class FormDesigner {
                 fail();
                 return INVALID;
             }
-            at++;
+            tokens.step();
             long name = takeNewName();
             Node added = name == 0 ? null : form.add(FIELDS + number, group);
             if (added == null) {
@@ -1474,7 +1498,13 @@ public final class FormDesigner {
             form.groupsGiven = number + 1;
             added.name = name;
             added.kind = KIND_GROUP;
-            return ifPart(FIELDS + number, added) && take('{') ? number : INVALID;
+            if (tokens.kind == IF) {
+                tokens.step();
+                if (!condition(FIELDS + number, added)) {
+                    return INVALID;
+                }
+            }
+            return take('{') ? number : INVALID;
         }
 
         private boolean field(int group) {
@@ -1482,8 +1512,8 @@ public final class FormDesigner {
             if (number >= FIELDS) {
                 return fail();
             }
-            int kind = token() - NUMBER;
-            at++;
+            int kind = tokens.kind - NUMBER;
+            tokens.step();
             int low = kind == KIND_NUMBER ? takeInt(0, MOST) : 0;
             if (low < 0) {
                 return false;
@@ -1506,7 +1536,16 @@ public final class FormDesigner {
                 return false;
             }
             added.width = takeInt(1, 10);
-            return added.width >= 0 && ifPart(number, added) && take(';');
+            if (added.width < 0) {
+                return false;
+            }
+            if (tokens.kind == IF) {
+                tokens.step();
+                if (!condition(number, added)) {
+                    return false;
+                }
+            }
+            return take(';');
         }
 
         private int takeHighest(int kind, int low) {
@@ -1515,14 +1554,6 @@ public final class FormDesigner {
                 case KIND_CHOICE: return takeInt(2, 9) - 1;
                 default: return 1;
             }
-        }
-
-        private boolean ifPart(int node, Node added) {
-            if (token() != IF) {
-                return true;
-            }
-            at++;
-            return condition(node, added);
         }
 
         private boolean condition(int node, Node target) {
@@ -1535,14 +1566,14 @@ public final class FormDesigner {
 
         private Term disjunction(int nesting) {
             Term first = conjunction(nesting);
-            if (first == null || token() != OR) {
+            if (first == null || tokens.kind != OR) {
                 return first;
             }
             Term whole = new Term(OR);
             whole.first = first;
             Term last = first;
-            for (int i = 0; i < TAPE && token() == OR; i++) {
-                at++;
+            for (int i = 0; i < TAPE && tokens.kind == OR; i++) {
+                tokens.step();
                 last.next = conjunction(nesting);
                 last = last.next;
                 if (last == null) {
@@ -1554,14 +1585,14 @@ public final class FormDesigner {
 
         private Term conjunction(int nesting) {
             Term first = test(nesting);
-            if (first == null || token() != AND) {
+            if (first == null || tokens.kind != AND) {
                 return first;
             }
             Term whole = new Term(AND);
             whole.first = first;
             Term last = first;
-            for (int i = 0; i < TAPE && token() == AND; i++) {
-                at++;
+            for (int i = 0; i < TAPE && tokens.kind == AND; i++) {
+                tokens.step();
                 last.next = test(nesting);
                 last = last.next;
                 if (last == null) {
@@ -1572,7 +1603,7 @@ public final class FormDesigner {
         }
 
         private Term test(int nesting) {
-            int token = token();
+            int token = tokens.kind;
             if (token == NAME) {
                 return nameTest();
             }
@@ -1580,12 +1611,16 @@ public final class FormDesigner {
                 fail();
                 return null;
             }
-            at++;
-            if (token == '(') {
-                Term inner = disjunction(nesting + 1);
-                return inner != null && take(')') ? inner : null;
+            tokens.step();
+            if (token == NOT) {
+                return negation(nesting + 1);
             }
-            Term negated = test(nesting + 1);
+            Term inner = disjunction(nesting + 1);
+            return inner != null && take(')') ? inner : null;
+        }
+
+        private Term negation(int nesting) {
+            Term negated = test(nesting);
             if (negated == null) {
                 return null;
             }
@@ -1601,40 +1636,18 @@ public final class FormDesigner {
             }
             Term test = new Term(NAME);
             testTerms[tests] = test;
-            testNames[tests] = tokens.content(at);
-            testStarts[tests] = tokens.start(at);
+            testNames[tests] = tokens.content;
+            testStarts[tests] = tokens.start;
             testOwners[tests] = owner;
             tests++;
-            at++;
-            int sign = token();
+            tokens.step();
+            int sign = tokens.kind;
             if (sign == '=' || sign == '<' || sign == '>') {
-                at++;
+                tokens.step();
                 test.sign = sign;
                 test.number = takeInt(0, MOST);
             }
             return test.number < 0 ? null : test;
-        }
-
-        /** Turns the names in the conditions into fields, and refuses what would be circular. */
-        private boolean settle() {
-            for (int i = 0; i < tests && i < TAPE; i++) {
-                int field = form.findName(testNames[i]);
-                if (form.findField(field) == null || testTerms[i] == null) {
-                    error = testStarts[i];
-                    return false;
-                }
-                testTerms[i].field = field;
-            }
-            for (int i = 0; i < tests && i < TAPE; i++) {
-                int field = testTerms[i] == null ? NOT_FOUND : testTerms[i].field;
-                Node target = form.find(testOwners[i]);
-                if (target == null || field < 0 || form.refuses(testOwners[i], field)) {
-                    error = testStarts[i];
-                    return false;
-                }
-                target.refers |= 1 << field;
-            }
-            return true;
         }
     }
 
@@ -1861,34 +1874,34 @@ public final class FormDesigner {
             }
             if (node.condition != null) {
                 putKeyword(IF);
-                putTerm(form, node.condition, 0);
+                putTerm(this, form, node.condition, 0);
             }
             putMark(group ? '{' : ';');
         }
 
-        private void putTerm(Form form, Term term, int level) {
+        private static void putTerm(Writer to, Form form, Term term, int level) {
             if (term == null || level > LEVELS) {
                 return;
             }
             if (term.kind == NAME) {
-                putTest(form, term);
+                to.putTest(form, term);
                 return;
             }
             if (term.kind == NOT) {
-                putKeyword(NOT);
+                to.putKeyword(NOT);
             }
             for (Term part = term.first; part != null; part = part.next) {
                 if (part != term.first) {
-                    putKeyword(term.kind);
+                    to.putKeyword(term.kind);
                 }
                 boolean enclosed = (term.kind == NOT && part.kind == AND)
                         || (term.kind != OR && part.kind == OR);
                 if (enclosed) {
-                    putSign('(');
+                    to.putSign('(');
                 }
-                putTerm(form, part, level + 1);
+                putTerm(to, form, part, level + 1);
                 if (enclosed) {
-                    putSign(')');
+                    to.putSign(')');
                 }
             }
         }

@@ -300,6 +300,14 @@ public final class PromiseTests {
         due(27, wrongAt("form 14 14 1;yesno a width 0;"));
         due(27, wrongAt("form 14 14 1;yesno a width 11;"));
         due(28, wrongAt("form 14 14 1;yesno a width 1"));
+        due(21, wrongAt("form 14 14 1;yesno a yesno b width 1;"));
+        due(20, wrongAt("form 14 14 1;number yesno a width 1;"));
+        due(22, wrongAt("form 14 14 1;number 5 group a{}"));
+        due(20, wrongAt("form 14 14 1;choice group a{}"));
+        due(27, wrongAt("form 14 14 1;yesno a width yesno b width 1;"));
+        due(19, wrongAt("form 14 14 1;yesno yesno b width 1;"));
+        due(19, wrongAt("form 14 14 1;group group b{}"));
+        due(21, wrongAt("form 14 14 1;group a group b{}"));
         due(28, wrongAt("form 14 14 1;yesno a width 1}"));
         due(20, wrongAt("form 14 14 1;choice 1 a width 1;"));
         due(20, wrongAt("form 14 14 1;choice 10 a width 1;"));
@@ -567,6 +575,8 @@ public final class PromiseTests {
         due(false, x.rename(-2, letters("b")));
         due(false, x.rename(32, letters("b")));
         due(false, x.rename(0, 0));
+        due(false, x.rename(0, 1 << 30));
+        due(false, x.rename(24, letters("orr")));
         due(false, x.rename(0, -1));
         due(false, x.rename(0, letters("b") | 1 << 30));
         due(false, x.rename(0, letters("b") | 1 << 31));
@@ -622,6 +632,8 @@ public final class PromiseTests {
         due(2, x.remove(24));
         due(2, x.nodeAt(0));
         due(-2, x.nodeAt(1));
+        x = form("form 14 14 1;yesno a width 1 if b;yesno b width 1;");
+        due(-2, x.remove(1));
         x = form("form 14 14 1;yesno a width 1;group h if a{}");
         due(-2, x.remove(0));
         due(0, x.remove(24));
@@ -697,6 +709,15 @@ public final class PromiseTests {
         due(false, x.move(24, 4, 0));
         due(true, x.move(24, 3, 0));
         due(3, x.node(26, 6));
+        x = form("form 14 14 1;group a{}group b{group c{group d{}}}");
+        due(true, x.move(24, 3, 0));
+        due(3, x.node(24, 6));
+        x.undo();
+        due(true, x.move(25, 0, 0));
+        due(3, x.node(27, 6));
+        x = form("form 14 14 1;group a{}group b{group c{group d{group e{}}}}");
+        due(false, x.move(24, 4, 0));
+        due(true, x.move(24, 3, 1));
         x = form("form 14 14 1;yesno a width 1;group g if b{yesno c width 1;}yesno b width 1 if a;");
         due(false, x.move(0, 0, 0));
         due(false, x.move(2, 0, 1));
@@ -860,6 +881,12 @@ public final class PromiseTests {
         x.begin();
         due(2, x.revisionOf(1));
         due(-2, x.advance(1));
+        x = sheet("form 14 14 1;yesno a width 1;yesno b width 1;");
+        x.answer(0, 0, 1);
+        x.remove(0);
+        x.publish();
+        due(1, x.advance(0));
+        due(0, x.answers(0));
     }
 
     private static void undo() {
@@ -896,6 +923,14 @@ public final class PromiseTests {
         x.publish();
         due(5, load(x, SAMPLE));
         due(-1, x.undo());
+        x.publish();
+        x.begin();
+        x.answer(0, 0, 1);
+        x.answer(0, 0, 0);
+        x.undo();
+        due(1, x.inForce(0, 0, 0));
+        x.undo();
+        due(-2, x.inForce(0, 0, 0));
     }
 
     /** Each operation, undone, leaves all as it was; what fails is no operation. */
@@ -955,6 +990,9 @@ public final class PromiseTests {
         for (int what = 0; what < 10; what++) {
             due(want[what], x.value(what));
         }
+        condition(x, 0, "rest");
+        due(4, x.value(9));
+        x.undo();
         due(-1, x.value(10));
         due(-1, x.value(-1));
         due(-1, x.value(-2));
@@ -1080,6 +1118,8 @@ public final class PromiseTests {
         for (int field : new int[] {5, 24, -1, -2, 32, MAX, MIN}) {
             due(-1, x.dependents(field));
         }
+        condition(x, 0, "rest");
+        due(23, x.dependents(3));
         StringBuilder chain = new StringBuilder("form 14 14 1;yesno x width 1;");
         for (int i = 1; i < 24; i++) {
             chain.append("yesno ").append((char) ('a' + i - 1)).append(" width 1 if ");
@@ -1301,6 +1341,9 @@ public final class PromiseTests {
         due(2, x.inForce(0, 0, 1));
         due(-2, x.inForce(0, 0, 2));
         due(9, x.inForce(0, 0, 3));
+        x.begin();
+        due(-2, x.inForce(1, 0, 0));
+        x.undo();
         x.answer(0, 0, 0);
         due(0, x.inForce(0, 0, 0));
         due(-2, x.inForce(0, 0, 1));
@@ -1413,6 +1456,9 @@ public final class PromiseTests {
         due(2, x.tally(3, 5));
         due(1, x.tally(3, 9));
         due(0, x.tally(3, 6));
+        x.answer(2, 0, 0);
+        due(1, x.tally(0, 0));
+        x.answer(2, 0, -2);
         due(0, x.tally(3, -2));
         due(0, x.tally(3, -1));
         due(0, x.tally(0, -2));
@@ -1447,6 +1493,21 @@ public final class PromiseTests {
             due(-1, x.rows(print, -2));
             due(-1, x.rows(print, MAX));
         }
+        x = sheet("form 14 14 5;yesno a width 1 if b;yesno b width 1 if c;yesno c width 1;");
+        due(2, x.rows(true, 0));
+        due(1, x.rows(false, 0));
+        due(0, x.place(true, 0, 0, false));
+        due(-2, x.place(false, 0, 0, false));
+        x = sheet("form 14 14 5;yesno b width 1;group g if not b{group h if b{yesno a width 1;}}group i{}");
+        due(3, x.rows(false, 0));
+        x.answer(0, 0, 1);
+        due(2, x.rows(false, 0));
+        x = sheet("form 14 14 5;yesno a width 1;group g{}");
+        x.remove(0);
+        x.remove(24);
+        x.publish();
+        due(2, x.rows(true, 0));
+        due(0, x.rows(true, 1));
         x = sheet("form 14 14 5;group g{group h{}}");
         due(2, x.rows(false, 0));
         due(2, x.rows(true, 0));
@@ -1570,6 +1631,8 @@ public final class PromiseTests {
         x.answer(0, 3, 0);
         due("abcdefgh=1 b=9999 c=10\n#abcdefgz\n #z\n  d=0__\n", text(x, false, 0));
         due("abcdefgh__\nb_____ c___\n#abcdefgz\n\n #z\n  d____\n", text(x, true, 0));
+        x.answer(0, 1, 1000);
+        due("b=1000", text(x, false, 0).substring(11, 17));
         x.answer(0, 1, 10);
         x.answer(0, 2, 9);
         due("abcdefgh=1 b=10__ c=9_\n", text(x, false, 0).substring(0, 23));
