@@ -285,6 +285,10 @@ public final class PromiseTests {
         due(11, wrongAt("form 14 14 61;"));
         due(5, wrongAt("form 00014 14 1;"));
         due(5, wrongAt("form a 14 1;"));
+        due(5, wrongAt("form yesno a width 1;"));
+        due(8, wrongAt("form 14 group a{}"));
+        due(11, wrongAt("form 14 14 choice 2 a width 1;"));
+        due(13, wrongAt("form 14 14 1 yesno a width 1;"));
         due(12, wrongAt("form 14 14 1"));
         due(14, wrongAt("form 14 14 1  "));
         due(13, wrongAt("form 14 14 1;}"));
@@ -1388,6 +1392,10 @@ public final class PromiseTests {
         due(-1, x.open(-1));
         due(-1, x.open(-2));
         due(-1, x.open(MAX));
+        x = sheet("form 14 14 1;" + fields(0, 24));
+        due(0xFFFFFF, x.open(0));
+        due(0, x.answer(0, 23, 1));
+        due(0x7FFFFF, x.open(0));
     }
 
     private static void completeness() {
