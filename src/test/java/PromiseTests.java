@@ -1,16 +1,5 @@
 /** For each promise of the document: ordinary inputs, the edges that it names, and wrong inputs. */
-public final class PromiseTests {
-    private static final int MAX = Integer.MAX_VALUE;
-    private static final int MIN = Integer.MIN_VALUE;
-    private static int promise;
-    private static int row;
-    private static int rights;
-    private static int wrongs;
-
-    private static final String SAMPLE = "form 40 30 5;yesno pet width 6;"
-            + "group animal if pet{choice 3 kind width 8;number 0 40 age width 4 if kind = 1 or kind = 2;}"
-            + "number 5 9 rest width 4;yesno last width 10 if not pet;";
-
+public final class PromiseTests extends Calls {
     public static void main(String[] args) {
         newObject();
         append();
@@ -62,113 +51,11 @@ public final class PromiseTests {
         setupLength();
         setupByte();
         tapeLength();
-        System.out.println("PromiseTests: " + rights + " answers as due, " + wrongs + " not");
-        System.exit(wrongs == 0 ? 0 : 1);
+        end("PromiseTests");
     }
-
-    // ---- helpers
 
     private static void start(int number) {
-        if (promise != number) {
-            row = 0;
-        }
-        promise = number;
-    }
-
-    private static void due(Object want, Object got) {
-        row++;
-        if (want.equals(got)) {
-            rights++;
-        } else {
-            wrongs++;
-            StackTraceElement[] trace = new Throwable().getStackTrace();
-            System.out.println("promise " + promise + ", row " + row + " (" + trace[1] + "): answered " + got + ", due is " + want);
-        }
-    }
-
-    /** Puts a text on the tape behind what is there, in words of twenty bytes. */
-    private static void put(FormDesigner x, String text) {
-        int spare = Math.floorMod(-text.length(), 20);
-        String full = text + " ".repeat(spare);
-        for (int i = 0; i < full.length(); i += 20) {
-            x.append(word(full, i), word(full, i + 4), word(full, i + 8), word(full, i + 12), word(full, i + 16));
-        }
-        x.truncate(spare);
-    }
-
-    private static int word(String text, int at) {
-        return text.charAt(at) << 24 | text.charAt(at + 1) << 16 | text.charAt(at + 2) << 8 | text.charAt(at + 3);
-    }
-
-    private static FormDesigner form(String text) {
-        FormDesigner x = new FormDesigner();
-        put(x, text);
-        if (x.load() < 0) {
-            throw new IllegalStateException("a test's form is wrong at " + x.errorPosition() + ": " + text);
-        }
-        return x;
-    }
-
-    /** A form with one revision and one sheet. */
-    private static FormDesigner sheet(String text) {
-        FormDesigner x = form(text);
-        x.publish();
-        x.begin();
-        return x;
-    }
-
-    private static int load(FormDesigner x, String text) {
-        put(x, text);
-        return x.load();
-    }
-
-    private static int insert(FormDesigner x, int group, String text) {
-        put(x, text);
-        return x.insert(group);
-    }
-
-    private static int condition(FormDesigner x, int node, String text) {
-        put(x, text);
-        return x.setCondition(node);
-    }
-
-    private static String setup(FormDesigner x) {
-        StringBuilder text = new StringBuilder();
-        for (int i = 0; i < x.setupLength(); i++) {
-            text.append((char) x.setupByte(i));
-        }
-        return text.toString();
-    }
-
-    private static String text(FormDesigner x, boolean print, int of) {
-        StringBuilder text = new StringBuilder();
-        for (int i = 0; i < x.textLength(print, of); i++) {
-            text.append((char) x.textByte(print, of, i));
-        }
-        return text.toString();
-    }
-
-    private static int letters(String name) {
-        int letters = 0;
-        for (int i = 0; i < 6; i++) {
-            letters = letters << 5 | (i < name.length() ? name.charAt(i) - 'a' + 1 : 0);
-        }
-        return letters;
-    }
-
-    /** Loads a text that is wrong and gives the error position. */
-    private static int wrongAt(String text) {
-        FormDesigner x = new FormDesigner();
-        int result = load(x, text);
-        return result == -1 ? x.errorPosition() : 1000 + result;
-    }
-
-    private static String fields(int from, int to) {
-        StringBuilder text = new StringBuilder();
-        for (int i = from; i < to; i++) {
-            text.append("yesno ").append((char) ('a' + i)).append(" width 1;");
-        }
-        return text.toString();
+        about("promise " + number);
     }
 
     // ---- texts
@@ -593,14 +480,6 @@ public final class PromiseTests {
         due(4, x.undo());
         due("zzzzzz", name(x, 0));
         due(-2, x.named(letters("orr")));
-    }
-
-    private static String name(FormDesigner x, int node) {
-        StringBuilder name = new StringBuilder();
-        for (int i = 0; x.letter(node, i) >= 0; i++) {
-            name.append((char) x.letter(node, i));
-        }
-        return name.toString();
     }
 
     private static void remove() {
