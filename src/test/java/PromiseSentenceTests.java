@@ -473,6 +473,7 @@ public final class PromiseSentenceTests extends Sentences {
         due(-2, x.remove(24));
         due(-2, x.remove(1));
         due(-2, x.remove(3));
+        due(-2, form("form 14 14 1;yesno a width 1 if b;yesno b width 1;").remove(1));
         due(before, picture(x));
         due(-1, x.undo());
         due(0, x.remove(26));
@@ -545,6 +546,9 @@ public final class PromiseSentenceTests extends Sentences {
         due(false, x.move(26, 2, 0));
         due(before, picture(x));
         says("if groups would lie too deep,");
+        due(true, x.move(24, 3, 0));
+        due(1, insert(x, 2, "yesno z width 1;"));
+        due(true, x.move(24, -2, 0));
         due(true, x.move(27, 2, 0));
         due(true, x.move(27, -2, 0));
         due(0, insert(x, 3, "group e{}"));
@@ -865,6 +869,10 @@ public final class PromiseSentenceTests extends Sentences {
         for (int what = 0; what < 10; what++) {
             due(values[what], x.value(what));
         }
+        condition(x, 0, "rest");
+        due(4, x.value(9));
+        condition(x, 0, "");
+        due(3, x.value(9));
         says("Returns that value; INVALID for any other what.");
         for (int wrong : new int[] {10, 11, -1, -2, MAX, MIN}) {
             due(-1, x.value(wrong));

@@ -227,10 +227,14 @@ public final class SectionTests extends Sentences {
         due(-1, insert(x, 3, "group f{}"));
         due(0, x.errorPosition());
         due(0, insert(x, 2, "group f{}"));
+        due(false, x.move(24, 4, 0));
         due(false, x.move(28, 3, 0));
         due(true, x.move(28, 2, 0));
         due(1, insert(x, 3, "yesno x width 1;"));
         due(4, x.node(0, 6));
+        x = form("form 14 14 1;group a{}group b{group c{group d{group e{}}}}");
+        due(false, x.move(24, 4, 0));
+        due(true, x.move(24, 3, 1));
         due(1000, wrongAt("form 14 14 1;group a{group b{group c{group d{}}}}"));
         due(45, wrongAt("form 14 14 1;group a{group b{group c{group d{group e{}}}}}"));
         says("A node argument is the number of a field, or 24 plus the number of a group.");
@@ -848,6 +852,10 @@ public final class SectionTests extends Sentences {
         says("test = \"not\" test | \"(\" condition \")\" | NAME [ ( \"=\" | \"<\" | \">\" ) INT ]");
         breaks(tokens, 34, tokens.length);
         int at = TWO.length();
+        // What begins a node is no test, though it could stand behind the semicolon.
+        due(at, wrongAt(TWO + "yesno c width 1;"));
+        due(at + 5, wrongAt(TWO + "a or group g{}"));
+        due(24, wrongAt("form 14 14 1;group g if yesno a width 1;"));
         due(at, wrongAt(TWO + "or a;"));
         due(at, wrongAt(TWO + "and a;"));
         due(at, wrongAt(TWO + "= 1;"));
