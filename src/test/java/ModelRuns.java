@@ -302,6 +302,7 @@ public final class ModelRuns {
         for (int i = 0; i <= setup.length() && same; i++) {
             got("setupByte(" + i + ")", real.setupByte(i), i < setup.length() ? setup.charAt(i) : -2);
         }
+        loadAgain(setup);
         for (int r = 0; r < model.revisions.size() && same; r++) {
             whole(true, r);
         }
@@ -325,6 +326,16 @@ public final class ModelRuns {
             got("inOrder(" + n + ")", real.inOrder(n), model.inOrder(n));
             got("dependsOn(" + n + ")", real.dependsOn(n), model.dependsOn(n));
             got("dependents(" + n + ")", real.dependents(n), model.dependents(n));
+        }
+    }
+
+    /** The setup text of a draft is a setup text, and that of the form which it makes is the same. */
+    private void loadAgain(String setup) {
+        if (setup.length() <= 1200) {
+            FormDesigner other = new FormDesigner();
+            Calls.put(other, setup);
+            got("load() of the setup text", other.load(), model.draft.fields().size());
+            got("that it makes the same form", Calls.setup(other).equals(setup), true);
         }
     }
 
